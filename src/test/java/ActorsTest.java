@@ -133,6 +133,10 @@ public final class ActorsTest {
         Check.due("holds(-1)", x.holds(-1), BAD);
         Check.due("holds(6)", x.holds(6), BAD);
         Check.due("holds changes nothing", x.start(), 3);
+        x.choice(2, 0, 5, 0);
+        x.row(0, 1);
+        Check.due("a row behind which it holds", x.breaks(0, 0), InvariantSearch.NONE);
+        Check.due("is not the state that is told", x.holds(0), 0);
     }
 
     private static void values() {
@@ -211,6 +215,10 @@ public final class ActorsTest {
         x.call(2, 2, 7, 0);
         Check.due("P", x.state(12), 12);
         Check.due("Q", x.state(0), 17);
+        x.call(0, 2, 100, 0);
+        x.call(3, 2, 1000, 0);
+        Check.due("P of all four", x.state(13), 1112);
+        Check.due("Q of all four", x.state(0), 1112 + 112 + 12 + 5);
         Check.method(x, 3, "p = 999999999 + 1;");
         Check.method(x, 4, "b = P - P;");
         x.start();

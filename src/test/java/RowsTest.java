@@ -200,6 +200,41 @@ public final class RowsTest {
         Check.due("it breaks the rule", x.breaks(row, 0), x.at(row, -1) - 1);
         Check.due("it is least", x.at(row, -1) <= 5 ? 1 : 0, 1);
         Check.due("the state that is told is not touched", x.start(), 0);
+        howMany();
+    }
+
+    /** Just so many rows are drawn, and one goes on from the x behind the other. */
+    private static void howMany() {
+        for (int seed = 0; seed < 30; seed++) {
+            InvariantSearch x = adder();
+            for (int i = 0; i < 9; i++) {
+                x.choice(0, 0, i == 8 ? 9 : 0, 0);
+            }
+            int first = firstWithLast(seed);
+            if (first > 0) {
+                Check.due("one too few, seed " + seed, x.draw(1, seed, first), NONE);
+            }
+            Check.due("enough, seed " + seed, x.draw(1, seed, first + 1), 0);
+            Check.rowDue(x, 0, 8);
+        }
+    }
+
+    /** Which of the rows drawn from a seed is the first with CHOICE 8 of 9; no LEAVES, so none is KEPT. */
+    private static int firstWithLast(int seed) {
+        int x = seed;
+        for (int row = 0; row < 200; row++) {
+            x = x * 1103515245 + 12345;
+            x = x * 1103515245 + 12345;
+            boolean has = false;
+            for (int more = 1 + (x >>> 16) % 6; more > 0; more--) {
+                x = x * 1103515245 + 12345;
+                has |= (x >>> 16) % 9 == 8;
+            }
+            if (has) {
+                return row;
+            }
+        }
+        return 200;
     }
 
     private static boolean kept(int seed) {
@@ -270,6 +305,14 @@ public final class RowsTest {
         Check.due("least(9, 0)", x.least(9, 0), BAD);
         Check.due("least(0, -1)", x.least(0, -1), BAD);
         Check.due("least(0, 4)", x.least(0, 4), BAD);
+        Check.due("twelve calls", x.row(word(3, 3, 3, 1, 3, 3, 1, 3, 3, 3, 3, 2), 12), 9);
+        Check.due("breaks at the twelfth", x.breaks(9, 0), 11);
+        Check.due("least", x.least(9, 0), 10);
+        Check.rowDue(x, 10, 1, 1, 2);
+        Check.due("twelve of which five are needed", x.row(word(0, 0, 0, 0, 0, 4, 4, 4, 4, 0, 0, 0), 12), 11);
+        Check.due("breaks at the fifth", x.breaks(11, 1), 4);
+        Check.due("least", x.least(11, 1), 12);
+        Check.rowDue(x, 12, 0, 0, 0, 0, 0);
         secondTurn();
     }
 

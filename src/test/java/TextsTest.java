@@ -80,6 +80,14 @@ public final class TextsTest {
         Check.due("all of it goes", x.cut(6), 0);
         Check.feed(x, "b = 2;");
         Check.due("new bytes follow what is left", x.method(0), 1);
+        Check.feed(x, "a = 12345");
+        x.cut(3);
+        Check.due("what was cut is not read", x.method(0), -16);
+        Check.feed(x, "12 = 1234");
+        x.cut(2);
+        Check.due("what was cut is not read", x.rule(), 0);
+        Check.due("12 = 12", x.holds(0), 1);
+        Check.due("208 figures", Check.rule(x, Check.repeat("1", 208)), -10);
     }
 
     private static void method() {
@@ -137,6 +145,10 @@ public final class TextsTest {
         Check.methodDue("a=b1;", -12);
         Check.methodDue("a=n0;", -12);
         Check.methodDue("a=A;", -12);
+        for (String letter : new String[] {"a", "z", "A", "Z", "m"}) {
+            Check.methodDue("a=b" + letter + ";", -12);
+            Check.methodDue("a=b" + letter + "09;", -12);
+        }
         Check.methodDue("a=p1;", -12);
         Check.methodDue("a1=1;", -10);
         Check.methodDue("needa;", -10);
@@ -194,6 +206,10 @@ public final class TextsTest {
         Check.methodDue("need a = (b = c);", 1);
         Check.methodDue("need a + ;", -19);
         Check.methodDue("need a + * b;", -19);
+        Check.methodDue("need a * ;", -19);
+        Check.methodDue("need a & / b;", -19);
+        Check.methodDue("need a < ;", -19);
+        Check.methodDue("need ! ;", -17);
         Check.methodDue("need a * - b;", 1);
         Check.methodDue("need a - - b;", 1);
         Check.methodDue("need a ! b;", -17);
