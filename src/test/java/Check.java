@@ -4,6 +4,7 @@ import java.util.Arrays;
 final class Check {
     private static int wrong = 0;
     private static int checked = 0;
+    private static String sentence = "";
 
     private Check() {
     }
@@ -12,8 +13,21 @@ final class Check {
         checked++;
         if (got != want) {
             wrong++;
-            System.out.println(what + ": answered " + got + ", due is " + want);
+            System.out.println(sentence + what + ": answered " + got + ", due is " + want);
         }
+    }
+
+    /** A test of one sentence of the document: that is told with what is not as due. */
+    static void under(String quote, Runnable test) {
+        int before = checked;
+        sentence = "[" + quote + "] ";
+        test.run();
+        due("some answer is looked at", checked > before ? 1 : 0, 1);
+        sentence = "";
+    }
+
+    static void yes(String what, boolean holds) {
+        due(what, holds ? 1 : 0, 1);
     }
 
     /** The whole TEXT, with nothing behind its last byte. */
@@ -71,6 +85,15 @@ final class Check {
 
     static String repeat(String one, int times) {
         return one.repeat(times);
+    }
+
+    /** The w of row() for these CHOICES. */
+    static long word(int... choices) {
+        long w = 0;
+        for (int i = choices.length - 1; i >= 0; i--) {
+            w = w << 5 | choices[i];
+        }
+        return w;
     }
 
     static void rowDue(InvariantSearch x, int row, int... want) {

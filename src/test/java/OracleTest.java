@@ -2,8 +2,10 @@ import java.util.Random;
 
 /** Long runs of calls drawn at random, each answer compared with the Oracle's. */
 public final class OracleTest {
-    private static final int RUNS = Integer.getInteger("runs", 400);
+    private static final int RUNS = Integer.getInteger("runs", 2500);
+    // The document says nothing of an object behind its 512th call; no step asks for more than the last 200.
     private static final int CALLS = 512;
+    private static final int MOST_OF_A_STEP = 200;
 
     private final Random random;
     private final InvariantSearch x = new InvariantSearch();
@@ -27,7 +29,7 @@ public final class OracleTest {
         Check.end();
     }
 
-    private boolean same(String call, long got, long want) {
+    private void same(String call, long got, long want) {
         calls++;
         log.append(call).append(" = ").append(got).append('\n');
         Check.due(call, got, want);
@@ -35,7 +37,6 @@ public final class OracleTest {
             System.out.println(log);
             System.exit(1);
         }
-        return got == want;
     }
 
     private int below(int n) {
@@ -62,9 +63,10 @@ public final class OracleTest {
         for (int i = below(12); i >= 0; i--) {
             addChoice();
         }
-        while (calls < CALLS - 20) {
+        while (calls < CALLS - MOST_OF_A_STEP) {
             step(below(100));
         }
+        Check.yes("calls of seed " + seed, calls <= CALLS);
     }
 
     private void tellMethod(int k) {
@@ -212,19 +214,16 @@ public final class OracleTest {
     }
 
     private void step(int what) {
-        int rule = some(x.told(1));
-        int row = some(x.told(3));
+        int rule = some(y.told(1));
+        int row = some(y.told(3));
+        int rows = y.told(3);
         if (what < 20) {
             int i = below(4);
             int k = below(6);
             int n = smallN();
             int v = smallV();
             same("call(" + i + ", " + k + ", " + n + ", " + v + ")", x.call(i, k, n, v), y.call(i, k, n, v));
-            for (int s = 0; s < 19; s++) {
-                if (x.state(s) != y.state(s)) {
-                    same("state(" + s + ")", x.state(s), y.state(s));
-                }
-            }
+            sameState(below(3));
         } else if (what < 26) {
             same("holds(" + rule + ")", x.holds(rule), y.holds(rule));
         } else if (what < 38) {
@@ -233,25 +232,25 @@ public final class OracleTest {
             answers[got <= -10 ? 0 : got == 1 ? 1 : 2] += got == 1 || got == -2 || got <= -10 ? 1 : 0;
             same("every(" + rule + ", " + most + ")", got, y.every(rule, most));
             same("states()", x.states(), y.states());
-            sameRow(x.told(3) - 1);
+            sameNewRow(rows);
         } else if (what < 52) {
             int seed = random.nextInt();
             int many = below(3) == 0 ? below(210) - 3 : 1 + below(6);
             int got = x.draw(rule, seed, many);
             answers[3] += got >= 0 ? 1 : 0;
             same("draw(" + rule + ", " + seed + ", " + many + ")", got, y.draw(rule, seed, many));
-            sameRow(x.told(3) - 1);
+            sameNewRow(rows);
             sameMet();
         } else if (what < 60) {
             long w = 0;
             for (int i = 0; i < 12; i++) {
-                w = w << 5 | below(Math.max(1, x.told(2)) + (below(60) == 0 ? 2 : 0));
+                w = w << 5 | below(Math.max(1, y.told(2)) + (below(60) == 0 ? 2 : 0));
             }
             int n = some(13);
             same("row(" + w + ", " + n + ")", x.row(w, n), y.row(w, n));
         } else if (what < 68) {
             same("least(" + row + ", " + rule + ")", x.least(row, rule), y.least(row, rule));
-            sameRow(x.told(3) - 1);
+            sameNewRow(rows);
         } else if (what < 74) {
             same("breaks(" + row + ", " + rule + ")", x.breaks(row, rule), y.breaks(row, rule));
         } else if (what < 80) {
@@ -286,24 +285,33 @@ public final class OracleTest {
         }
     }
 
-    private void sameRow(int row) {
-        for (int i = -2; i < 13; i++) {
-            if (x.at(row, i) != y.at(row, i)) {
-                same("at(" + row + ", " + i + ")", x.at(row, i), y.at(row, i));
+    /** Every third number of THE STATE. */
+    private void sameState(int from) {
+        for (int what = from; what < 19; what += 3) {
+            same("state(" + what + ")", x.state(what), y.state(what));
+        }
+    }
+
+    private void sameNewRow(int before) {
+        if (y.told(3) > before) {
+            for (int i = -1; i <= y.at(before, -1); i++) {
+                same("at(" + before + ", " + i + ")", x.at(before, i), y.at(before, i));
             }
         }
     }
 
+    /** The LEAVES of two METHODS and two KEPT ones. */
     private void sameMet() {
-        for (int k = -1; k < 9; k++) {
-            for (int l = -2; l < 26; l++) {
-                if (x.met(k, l) != y.met(k, l)) {
-                    same("met(" + k + ", " + l + ")", x.met(k, l), y.met(k, l));
-                }
-                if (x.kept(k, l) != y.kept(k, l)) {
-                    same("kept(" + k + ", " + l + ")", x.kept(k, l), y.kept(k, l));
-                }
+        for (int turn = 0; turn < 2; turn++) {
+            int k = below(8) - 1;
+            for (int l = -1; l <= Math.max(0, y.told(5 + Math.max(0, Math.min(k, 5)))); l++) {
+                same("met(" + k + ", " + l + ")", x.met(k, l), y.met(k, l));
+            }
+            int one = below(y.told(4) + 1);
+            for (int i = -2; i <= Math.max(0, y.kept(one, -1)); i++) {
+                same("kept(" + one + ", " + i + ")", x.kept(one, i), y.kept(one, i));
             }
         }
+        same("told(4)", x.told(4), y.told(4));
     }
 }

@@ -33,14 +33,6 @@ public final class RowsTest {
         return x;
     }
 
-    private static long word(int... choices) {
-        long w = 0;
-        for (int i = choices.length - 1; i >= 0; i--) {
-            w = w << 5 | choices[i];
-        }
-        return w;
-    }
-
     private static void choice() {
         InvariantSearch x = adder();
         Check.due("lowest", x.choice(0, 0, -MILLION, 0), 0);
@@ -259,13 +251,13 @@ public final class RowsTest {
         Check.due("n 13", x.row(0, 13), BAD);
         Check.due("n -1", x.row(0, -1), BAD);
         Check.due("choice 30", x.row(30, 1), BAD);
-        Check.due("choice 31 at the end", x.row(word(0, 0, 31), 3), BAD);
-        Check.due("what is behind does not matter", x.row(word(1, 29, 31), 2), 0);
+        Check.due("choice 31 at the end", x.row(Check.word(0, 0, 31), 3), BAD);
+        Check.due("what is behind does not matter", x.row(Check.word(1, 29, 31), 2), 0);
         Check.rowDue(x, 0, 1, 29);
         int[] twelve = {29, 0, 5, 17, 28, 3, 9, 11, 29, 1, 2, 27};
-        Check.due("twelve", x.row(word(twelve), 12), 1);
+        Check.due("twelve", x.row(Check.word(twelve), 12), 1);
         Check.rowDue(x, 1, twelve);
-        Check.due("the highest bits don't matter", x.row(word(twelve) | 15L << 60, 12), 2);
+        Check.due("the highest bits don't matter", x.row(Check.word(twelve) | 15L << 60, 12), 2);
         Check.rowDue(x, 2, twelve);
         Check.due("-1L", x.row(-1L, 1), BAD);
         for (int i = 3; i < 20; i++) {
@@ -283,19 +275,19 @@ public final class RowsTest {
         x.choice(0, 1, 4, 0);
         x.choice(0, 0, 0, 0);
         x.choice(0, 0, -1, 0);
-        Check.due("row", x.row(word(3, 0, 1, 3, 0, 2, 2, 3), 8), 0);
+        Check.due("row", x.row(Check.word(3, 0, 1, 3, 0, 2, 2, 3), 8), 0);
         Check.due("least", x.least(0, 0), 1);
         Check.rowDue(x, 1, 0, 1, 0, 2);
         Check.rowDue(x, 0, 3, 0, 1, 3, 0, 2, 2, 3);
-        Check.due("row", x.row(word(0, 0, 0, 0, 2, 1, 1, 2), 8), 2);
+        Check.due("row", x.row(Check.word(0, 0, 0, 0, 2, 1, 1, 2), 8), 2);
         Check.due("what stands last goes first", x.least(2, 0), 3);
         Check.rowDue(x, 3, 0, 0, 0, 0, 2);
         // a = 1, 0, 2, 4: without the pair it breaks as well, but no one of the two may go alone
-        Check.due("row", x.row(word(0, 4, 1, 1, 2), 5), 4);
+        Check.due("row", x.row(Check.word(0, 4, 1, 1, 2), 5), 4);
         Check.due("one at a time", x.least(4, 0), 5);
         Check.rowDue(x, 5, 0, 4, 1, 1, 2);
         // 1 + 2 + 2: the 1 goes in the first turn only if 2 + 2 is enough, which it is not
-        Check.due("row", x.row(word(0, 1, 1, 1), 4), 6);
+        Check.due("row", x.row(Check.word(0, 1, 1, 1), 4), 6);
         Check.due("the first that may go from the last", x.least(6, 1), 7);
         Check.rowDue(x, 7, 0, 1, 1);
         Check.due("NONE", x.least(0, 2), NONE);
@@ -305,11 +297,11 @@ public final class RowsTest {
         Check.due("least(9, 0)", x.least(9, 0), BAD);
         Check.due("least(0, -1)", x.least(0, -1), BAD);
         Check.due("least(0, 4)", x.least(0, 4), BAD);
-        Check.due("twelve calls", x.row(word(3, 3, 3, 1, 3, 3, 1, 3, 3, 3, 3, 2), 12), 9);
+        Check.due("twelve calls", x.row(Check.word(3, 3, 3, 1, 3, 3, 1, 3, 3, 3, 3, 2), 12), 9);
         Check.due("breaks at the twelfth", x.breaks(9, 0), 11);
         Check.due("least", x.least(9, 0), 10);
         Check.rowDue(x, 10, 1, 1, 2);
-        Check.due("twelve of which five are needed", x.row(word(0, 0, 0, 0, 0, 4, 4, 4, 4, 0, 0, 0), 12), 11);
+        Check.due("twelve of which five are needed", x.row(Check.word(0, 0, 0, 0, 0, 4, 4, 4, 4, 0, 0, 0), 12), 11);
         Check.due("breaks at the fifth", x.breaks(11, 1), 4);
         Check.due("least", x.least(11, 1), 12);
         Check.rowDue(x, 12, 0, 0, 0, 0, 0);
@@ -327,7 +319,7 @@ public final class RowsTest {
         for (int k = 0; k < 4; k++) {
             x.choice(0, k, 0, 0);
         }
-        x.row(word(0, 3, 1, 2), 4);
+        x.row(Check.word(0, 3, 1, 2), 4);
         Check.due("least", x.least(0, 0), 1);
         // from the last: 1 must stay, 3 must stay while 0 is there; 0 goes; then 3 goes
         Check.rowDue(x, 1, 1, 2);
@@ -337,7 +329,7 @@ public final class RowsTest {
         InvariantSearch x = adder();
         x.choice(0, 0, 1, 0);
         x.choice(0, 0, 2, 0);
-        x.row(word(1, 0, 1), 3);
+        x.row(Check.word(1, 0, 1), 3);
         Check.due("at(0, -1)", x.at(0, -1), 3);
         Check.due("at(0, 0)", x.at(0, 0), 1);
         Check.due("at(0, 1)", x.at(0, 1), 0);
@@ -354,7 +346,7 @@ public final class RowsTest {
         x.choice(0, 0, 1, 0);
         x.choice(0, 0, 2, 0);
         x.choice(0, 1, 4, 0);
-        x.row(word(1, 1, 0, 2, 1), 5);
+        x.row(Check.word(1, 1, 0, 2, 1), 5);
         Check.due("a < 5", x.breaks(0, 1), 2);
         Check.due("b = 0", x.breaks(0, 0), NONE);
         Check.due("1", x.breaks(0, 2), NONE);
@@ -383,14 +375,14 @@ public final class RowsTest {
         x.choice(0, 0, 0, 20);
         x.choice(1, 0, 0, 10);
         x.choice(1, 1, 10, 0);
-        x.row(word(0, 1, 2), 3);
+        x.row(Check.word(0, 1, 2), 3);
         Check.due("breaks", x.breaks(0, 0), 2);
         Check.due("paid three times", x.profit(0, 1), 20);
         Check.due("the other one", x.profit(0, 0), -20);
         Check.due("one without", x.profit(0, 3), 0);
-        x.row(word(0, 1), 2);
+        x.row(Check.word(0, 1), 2);
         Check.due("paid in", x.profit(1, 1), -10);
-        Check.due("all its calls are done", x.row(word(0, 1, 2, 1, 2), 5), 2);
+        Check.due("all its calls are done", x.row(Check.word(0, 1, 2, 1, 2), 5), 2);
         Check.due("behind the break, too", x.profit(2, 1), 10);
         x.call(1, 0, 0, 10);
         Check.due("from THE START", x.profit(0, 1), 20);
