@@ -655,6 +655,7 @@ final class EdgesOfPromises {
         x.draw(0, 1, 5);
         Check.due("nor what is not every()", x.states(), 20);
         x.fresh();
+        Check.due("nor fresh()", x.states(), 20);
         x.every(0, 12);
         Check.due("no CHOICES: THE START", x.states(), 1);
         InvariantSearch y = new InvariantSearch();

@@ -104,8 +104,14 @@ final class EdgesOfRows {
         Check.due("behind a call that FAILS, THE START matters", x.breaks(1, 0), 0);
         x.row(Check.word(0, 1), 2);
         Check.due("and when it comes again", x.breaks(2, 0), 1);
-        Check.due("every", x.every(0, 1), -13);
+        Check.due("every: behind a call that FAILS", x.every(0, 1), -13);
         Check.rowDue(x, 3, 2);
+        Check.due("so with more calls, though that STATE was there", x.every(0, 12), -14);
+        Check.rowDue(x, 4, 2);
+        InvariantSearch back = adder("a");
+        choose(back, 1, -1);
+        Check.due("every: when it comes again", back.every(0, 12), -10);
+        Check.rowDue(back, 0, 0, 1);
         InvariantSearch y = adder("a", "0");
         choose(y, 1, 2);
         Check.due("every does not look at THE START", y.every(0, 12), 1);
