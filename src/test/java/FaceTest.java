@@ -51,9 +51,15 @@ public final class FaceTest {
         }
         said("fields", fields.equals(Set.of("BAD", "NONE", "FULL")), fields.toString());
         Class<?>[] inside = type.getDeclaredClasses();
-        said("classes", inside.length <= 12, "" + inside.length);
+        said("twelve classes", inside.length + 1 <= 12, "" + (inside.length + 1));
+        said("twenty fields", fieldsOf(type) <= 20, type.getName());
+        for (Method m : type.getDeclaredMethods()) {
+            said("a private name of the face", isOpen(m) || !names.contains(m.getName()), m.toString());
+            said("seven parameters", m.getParameterCount() <= 7, m.toString());
+        }
         for (Class<?> one : inside) {
             said("static", Modifier.isStatic(one.getModifiers()), one.getName());
+            said("twenty fields", fieldsOf(one) <= 20, one.getName());
             for (Method m : one.getDeclaredMethods()) {
                 said("a name of the face inside", !names.contains(m.getName()), m.toString());
                 said("seven parameters", m.getParameterCount() <= 7, m.toString());
@@ -62,6 +68,10 @@ public final class FaceTest {
                 said("static fields are final", !Modifier.isStatic(f.getModifiers()) || Modifier.isFinal(f.getModifiers()), f.toString());
             }
         }
+    }
+
+    private static long fieldsOf(Class<?> type) {
+        return Arrays.stream(type.getDeclaredFields()).filter(f -> !Modifier.isStatic(f.getModifiers())).count();
     }
 
     private static void constants() {
@@ -81,7 +91,19 @@ public final class FaceTest {
         while (imports.find()) {
             said("import", Set.of("java.util.Arrays", "java.util.ArrayList", "java.util.List").contains(imports.group(1)), imports.group(1));
         }
+        shortMethods(whole);
         said("characters 0 to 255", whole.chars().allMatch(c -> c < 256), "");
+    }
+
+    /** A method begins with a line that ends in ") {", and ends with a brace as far in as that began. */
+    private static void shortMethods(String whole) {
+        Matcher method = Pattern.compile("(?m)^( {4}| {8})(?! |if|for|while|switch|\\})[^\n;]*\\) \\{\n(?s:.*?)^\\1\\}$").matcher(whole);
+        int methods = 0;
+        while (method.find()) {
+            methods++;
+            said("sixty lines", method.group().lines().count() <= 60, method.group().lines().findFirst().orElse(""));
+        }
+        said("methods were looked at", methods > 100, "" + methods);
     }
 
     private static boolean isOpen(Member m) {
